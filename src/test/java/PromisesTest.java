@@ -511,6 +511,13 @@ public final class PromisesTest {
         WorstVoice z = Due.town("s9000,s9000,s9000,s5000;0");
         due("15: all others", z.need(3, 0), 15);
         due("15: all others, singer 1", z.need(3, 11), 5);
+        due("15: himself, who had to have some before", z.need(1, 11), 0);
+        due("15: the first alone", z.need(1, 10), 1);
+        WorstVoice last = Due.town("s9000,s1000,s2000,s8000;0");
+        due("15: the last may be as bad as he", last.need(2, 0), 8 + 6);
+        due("15: singer 0", last.need(2, 10), 8);
+        due("15: singer 1 none", last.need(2, 11), 0);
+        due("15: singer 3", last.need(2, 13), 6);
     }
 
     private static void needWithHoneyBefore() {
@@ -655,7 +662,8 @@ public final class PromisesTest {
         x.honey(3, 0);
         x.practise(2);
         x.forget();
-        x.hear(3, 0, 1, true);
+        x.hear(3, 2, 1, false);
+        x.hear(3, 1, 0, true);
         x.letter('s');
         due("20: weeks of the image", x.restore(), 2);
         due("20: cold", x.singer(1, 2), 1);
@@ -733,12 +741,18 @@ public final class PromisesTest {
         Due.write(x, "s1000,c0020;2");
         x.town();
         x.letter('t');
-        long[] told = {0, 0, 0, 0, 0, 0, 0, 1, 0, 0, 0, 1, 0, 0, 0,
-            4, 1, 0, 0, 0, 0, 1, 0, 0, 2, 0, 0, 0, 2, 0,
-            2, 1, 2, 15, 1, 0, 2,
+        x.cold(1, true);
+        x.aisle(0, true);
+        x.honey(0, 7);
+        x.honey(1, 1);
+        x.practise(0);
+        x.hear(0, 1, 0, true);
+        long[] told = {0, 0, 0, 1, 7, 0, 0, 0, 0, 0, 0, 0, 0, 0, 0,
+            4, 1, 1, 0, 1, 0, 1, 0, 0, 2, 0, 2, 2, 1, 0,
+            2, 1, 1, 7, 1, 0, 1,
             1,
             't',
-            2, 1, 0, 0, 0, 0, 1, 1, 0};
+            2, 1, 1, 8, 1, 1, 1, 1, 0};
         long h = 947;
         for (long number : told) {
             h = 31 * h + number;
