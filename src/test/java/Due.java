@@ -2,6 +2,7 @@
 final class Due {
     private int right;
     private int wrong;
+    private String title = "";
 
     void due(String call, long got, long want) {
         if (got == want) {
@@ -9,7 +10,19 @@ final class Due {
             return;
         }
         wrong++;
-        System.out.println(call + " answered " + got + ", due is " + want);
+        System.out.println(title + call + " answered " + got + ", due is " + want);
+    }
+
+    /** A test of its own: its title stands ahead of each wrong answer, and it is wrong if it asks nothing. */
+    void test(String name, Runnable body) {
+        int before = right + wrong;
+        title = name + ": ";
+        body.run();
+        if (right + wrong == before) {
+            wrong++;
+            System.out.println(title + "it asks nothing");
+        }
+        title = "";
     }
 
     /** Tells how many answers were right, and ends with exit code 1 if one was not. */
