@@ -367,6 +367,7 @@ public final class TermsEdgesTest {
     private static void whoIsMayor() {
         test("promise 8: FOR him at whom she WINCES most, of like ones the least", TermsEdgesTest::forOfLikeOnes);
         test("promise 8: all may be 0", TermsEdgesTest::forWhereAllAre0);
+        test("promise 8: how much she WINCES at that one, 0 to 18", TermsEdgesTest::wincesAtThatOne);
         test("promise 14: MAYOR, of like ones the least", TermsEdgesTest::mayorOfLikeOnes);
         test("promise 14: MAYOR, most WIDOWS", TermsEdgesTest::mayorOfMost);
     }
@@ -389,6 +390,21 @@ public final class TermsEdgesTest {
         due("she winces", x.widow(0, 2), 0);
         due("how many are for him", x.singer(0, 1), 1);
         due("mayor()", x.mayor(), 0);
+    }
+
+    private static void wincesAtThatOne() {
+        WorstVoice x = Due.town("s9999,d9999,b9999;0123");
+        for (int widow = 0; widow < 4; widow++) {
+            due("the greatest, widow " + widow, x.widow(widow, 2), widow == 3 ? 18 : 9);
+        }
+        x.cold(2, true);
+        int[] withCold = {12, 12, 9, 18};
+        for (int widow = 0; widow < 4; widow++) {
+            due("with a cold, widow " + widow, x.widow(widow, 2), withCold[widow]);
+        }
+        due("the least", Due.town("s0999,t1999;0").widow(0, 2), 0);
+        due("the least but 0", Due.town("s0999,t2999;0").widow(0, 2), 1);
+        due("at the last singer", Due.town("s0000,s0000,s0000,s0050;2").widow(0, 2), 5);
     }
 
     private static void mayorOfLikeOnes() {
@@ -416,6 +432,7 @@ public final class TermsEdgesTest {
         test("promise 6: WORST, none and all are FOR him by that", TermsEdgesTest::worstVotes);
         test("promise 15: HONEY, 0 for who is MAYOR", TermsEdgesTest::honeyOfMayor);
         test("promise 15: HONEY, no more than 9 for each in all", TermsEdgesTest::honeyNoMoreThan9);
+        test("promise 15: HONEY, how much each, 0 to 9", TermsEdgesTest::honeyEach);
         test("promise 15: HONEY, of like ones the first by numbers", TermsEdgesTest::honeyOfLikeOnes);
         test("promise 15: HONEY, none", TermsEdgesTest::honeyNone);
     }
@@ -446,6 +463,10 @@ public final class TermsEdgesTest {
         x.cold(1, true);
         worstIs(x, "with the cold that he has", 1, 2, 1);
         due("he has it still", x.singer(1, 2), 1);
+        WorstVoice left = Due.town("s3000,s1000;0");
+        left.aisle(1, true);
+        worstIs(left, "on the right, where he does not stand now", 1, 2, 1);
+        due("he stands left still", left.singer(1, 3), 1);
     }
 
     private static void worstOthersAsTheyAre() {
@@ -502,6 +523,29 @@ public final class TermsEdgesTest {
         needIs(x, "s0001,b0005;3 with 9 honey", 0, 0, 0, 0);
         x.honey(0, 1);
         needIs(x, "s0001,b0005;3 with 9 honey, and he with 1", 0, NONE);
+    }
+
+    private static void honeyEach() {
+        for (int first = 0; first <= 9; first++) {
+            for (int second = 0; second <= 9; second++) {
+                needIs("s0001," + needing(first) + "," + needing(second) + ";3", 0, first + second, 0, first, second,
+                    NONE);
+            }
+        }
+        int[] some = {0, 1, 5, 8, 9};
+        for (int first : some) {
+            for (int second : some) {
+                for (int third : some) {
+                    String others = needing(first) + "," + needing(second) + "," + needing(third);
+                    needIs("s0001," + others + ";3", 0, first + second + third, 0, first, second, third);
+                }
+            }
+        }
+    }
+
+    /** One who needs so much honey to be no worse in FEELING than s0001. */
+    private static String needing(int honey) {
+        return honey == 9 ? "b0005" : "s000" + (honey + 1);
     }
 
     private static void honeyOfLikeOnes() {
@@ -792,15 +836,17 @@ public final class TermsEdgesTest {
         for (int many = 1; many <= 7; many++) {
             x.hear(0, 0, 1, true);
         }
-        x.hear(1, 2, 1, true);
+        x.hear(1, 2, 1, false);
         x.image();
         x.forget();
-        x.hear(0, 1, 0, true);
-        x.hear(1, 1, 0, true);
+        x.hear(0, 1, 0, false);
+        for (int many = 2; many <= 8; many++) {
+            x.hear(1, 1, 0, true);
+        }
         x.restore();
         due("eight were heard", x.count(5), 8);
         due("what was heard of widow 0", x.widow(0, 3), 1);
-        due("what was heard of widow 1", x.widow(1, 3), 4);
+        due("what was heard of widow 1", x.widow(1, 3), 1 + 2 + 8);
         due("it is full", x.hear(0, 0, 1, true), -104);
     }
 
