@@ -700,6 +700,7 @@ public final class TermsEdgesTest {
     private static void theYears() {
         test("promise 18: DRAWS wrap around at 2 to the 31", TermsEdgesTest::drawsWrap);
         test("promise 18: a DRAW is of how many SINGERS there are", TermsEdgesTest::drawsOfSingers);
+        test("promise 18: one practises, one (perhaps the same) is chilled", TermsEdgesTest::perhapsTheSame);
         test("promise 18: a COLD, if he has none, else none any more", TermsEdgesTest::coldsTurn);
         test("promise 18: YEARS as they would be", TermsEdgesTest::yearsWouldBe);
     }
@@ -728,6 +729,14 @@ public final class TermsEdgesTest {
         yearsAre("s3300,t9900,b0004;013", 60, 1, 2, 2, 2100427849);
         yearsAre("s3300,t9900,b0004,c9900;01133", 60, 1, 1, 2, 2100427849);
         yearsAre("s3300,t9900,b0004,c9900;01133", 60, Integer.MAX_VALUE, 0, 2, 2141326983);
+    }
+
+    /** From SEED 1 the first two DRAWS of two are 0: in the first year singer 0 practises, and is chilled. */
+    private static void perhapsTheSame() {
+        due("as bad by the cold", Due.town("s0200,s0400;1").years(1, 1, 1), 0);
+        due("less bad by the practice", Due.town("s0100,s0400;1").years(1, 1, 1), 1);
+        due("a boy gets worse by it", Due.town("b0100,s0500;1").years(1, 1, 1), 0);
+        due("no worse than so", Due.town("b0100,s0600;1").years(1, 1, 1), 1);
     }
 
     /** From SEED 1 the second DRAW of two is 0: singer 0 is chilled in the first year. */
